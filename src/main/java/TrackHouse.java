@@ -35,12 +35,12 @@ public final class TrackHouse {
     private final Log log = new Log();
     private final World live = new World();
     private final World twin = new World();
-    private final View view = new View();
-    private final Kinds kinds = new Kinds();
+    private final Finder finder = new Finder();
+    private final Query query = finder.query;
+    private final View view = finder.view;
+    private final Sight sight = finder.sight;
+    private final Kinds kinds = sight.kinds;
     private final Flows flows = new Flows();
-    private final Sight sight = new Sight(kinds, live);
-    private final Query query = new Query();
-    private final Finder finder = new Finder(query, view, sight);
     private final Rules rules = new Rules();
     private final Ranks ranks = new Ranks();
     private final Bulks bulks = new Bulks();
@@ -1179,14 +1179,12 @@ public final class TrackHouse {
         private final int[] readers = new int[FIELDS + 1];
         private final int[] readable = new int[FIELDS + 1];
         private final int[] told = new int[FIELDS];
-        private final Kinds kinds;
-        private World world;
+        private final Kinds kinds = new Kinds();
+        private World world = new World();
         private int seen = 0;
         private int edited = 0;
 
-        private Sight(Kinds kinds, World world) {
-            this.kinds = kinds;
-            this.world = world;
+        private Sight() {
             Arrays.fill(seers, ALL_ROLES);
             Arrays.fill(editors, ALL_ROLES);
             Arrays.fill(cleared, ALL_ROLES);
@@ -1451,15 +1449,9 @@ public final class TrackHouse {
     /** Finds the items for which a compiled query holds, for whom the sight looks, in the world of the view. */
     private static final class Finder {
         private final int[] sets = new int[LETTERS];
-        private final Query query;
-        private final View view;
-        private final Sight sight;
-
-        private Finder(Query query, View view, Sight sight) {
-            this.query = query;
-            this.view = view;
-            this.sight = sight;
-        }
+        private final Query query = new Query();
+        private final View view = new View();
+        private final Sight sight = new Sight();
 
         private int hits() {
             int top = 0;

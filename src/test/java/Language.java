@@ -15,7 +15,8 @@ import java.util.regex.Pattern;
 public final class Language {
     private static final String[] RULED_OUT = {
         "->", "::", "\\bpackage\\b", "\\bsynchronized\\b", "\\bassert\\b", "\\bfinally\\b", "\\bstatic \\{",
-        "\\bthrows? Exception\\b", "\\bThrowable\\b", "\\bError\\b", "Exact\\(", "\\bvar\\b", "\\bSystem\\.(?!arraycopy\\()",
+        "\\bthrows? Exception\\b", "\\bThrowable\\b", "\\bError\\b", "Exact\\(", "\\bvar\\b",
+        "\\bSystem\\.(?!arraycopy\\()",
         "\\bArrays\\.(?!copyOf\\(|copyOfRange\\(|fill\\()", "\\bString\\.", "\\bThread\\b", "\\bRandom\\b", "\\bMap\\b",
         "\\bgetMessage\\b", "\\bhashCode\\b", "\\btoString\\b", "\\bcatch\\b", "\\bObject\\b", "\"\\s*\\+|\\+\\s*\"",
     };

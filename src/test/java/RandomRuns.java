@@ -31,6 +31,7 @@ public final class RandomRuns {
     private int items = 0;
     private int today = 0;
     private int ruleCount = 0;
+    private int drafted = 0;
     private boolean isWrong = false;
 
     private RandomRuns(long seed) {
@@ -152,6 +153,9 @@ public final class RandomRuns {
 
     private int upTo(int most) {
         if (random.nextInt(100) < wild) {
+            if (random.nextInt(4) == 0) {
+                return random.nextInt(3) == 0 ? random.nextInt() : random.nextBoolean() ? 1 << 31 : (1 << 31) - 1;
+            }
             return random.nextBoolean() ? -1 - random.nextInt(2) : most + 1 + random.nextInt(2);
         }
         return random.nextInt(most + 1);
@@ -178,6 +182,17 @@ public final class RandomRuns {
         return random.nextInt(2) == 0 ? 15 : upTo(15);
     }
 
+    /** Mostly a state that the draft has. */
+    private int draftState() {
+        for (int i = 0; i < 20 && random.nextInt(100) >= wild; i++) {
+            int state = random.nextInt(6);
+            if ((drafted >> state & 1) == 1) {
+                return state;
+            }
+        }
+        return upTo(5);
+    }
+
     private int dayOf() {
         return random.nextInt(2) == 0 ? today : upTo(today);
     }
@@ -192,9 +207,10 @@ public final class RandomRuns {
             case "kind": return list(upTo(2), random.nextInt(3) > 0 ? 7 : upTo(7), orNone(3), upTo(2));
             case "draft": return list(upTo(2));
             case "state": return list(upTo(5));
-            case "drop": return list(upTo(5), upTo(5));
+            case "drop": return list(draftState(), draftState());
             case "transition":
-                return list(upTo(5), upTo(5), roles(), random.nextBoolean() ? -1 : upTo(2), random.nextInt(6), upTo(2));
+                int field = random.nextBoolean() ? -1 : upTo(2);
+                return list(draftState(), draftState(), roles(), field, random.nextInt(6), upTo(field < 0 ? 1 : 2));
             case "publish": return list(person());
             case "create": return list(person(), upTo(2), upTo(2));
             case "set": return list(person(), item(), upTo(2), value());
@@ -296,6 +312,8 @@ public final class RandomRuns {
         if (due.startsWith("=")) {
             items += name.equals("create") ? 1 : 0;
             ruleCount += name.equals("rule") ? 1 : 0;
+            drafted = name.equals("draft") || name.equals("state") ? Integer.parseInt(due.substring(2)) : drafted;
+            drafted &= name.equals("drop") ? ~(1 << (Integer) arguments[0]) : -1;
             today = name.equals("pass") ? Integer.parseInt(due.substring(2)) : today;
         }
     }
